@@ -8,6 +8,7 @@ public final class HeadsetBands {
     public static final int NONE = -1;
 
     private static final int NO_ANSWER = -2147483648;
+    private static final int MOST_INT = 2147483647;
 
     private static final int CHANNELS = 2;
     private static final int BANDS = 8;
@@ -28,7 +29,6 @@ public final class HeadsetBands {
     private static final int LINE_PLACES = 6;
     private static final int PHASE_OF_A_FRAME = 4000;
     private static final int TOLD_FRAMES = 16;
-    private static final int TOLD_OF_A_FRAME = 6;
 
     // The numbers of a Way stand in one row, at the place by which count() asks for them, so that
     // they are copied, cleared and told as one.
@@ -85,12 +85,22 @@ public final class HeadsetBands {
     private static final int[] FIRST_LOUD = {0, 0, 1, 2, 3, 4, 5, 6};
     private static final int[] FIRST_TONES = {40, 1000, 0, 50, 1000, 0};
 
-    // What a packet's record and a played frame's record hold, by the documents' numbers for them.
+    // As packet() and played() tell them.
     private static final int STATUS_IN_LINE = 1;
     private static final int STATUS_ARRIVED = 2;
     private static final int STATUS_GIVEN_UP = 3;
     private static final int HEARD_BY_CODE = 1;
     private static final int HEARD_MADE_UP = 2;
+
+    // The places of a played FRAME's record are those by which played() asks for them; its number (0)
+    // is known from NEXT.
+    private static final int RECORD_HOW = 1;
+    private static final int RECORD_LEVEL = 2;
+    private static final int RECORD_TRIM = 3;
+    private static final int RECORD_OFF = 4;
+    private static final int RECORD_FADE = 5;
+    private static final int RECORD_SLOT = 6;
+    private static final int RECORD_PLACES = 7;
 
     private final Way now = new Way();
     private final Way[] kept = new Way[2];
@@ -428,7 +438,7 @@ public final class HeadsetBands {
         if (what == 0) {
             return now.numbers[NEXT] - 1 - ago;
         }
-        return within(what, 1, TOLD_OF_A_FRAME) ? now.player.recordOf(ago, what) : NO_ANSWER;
+        return within(what, RECORD_HOW, RECORD_SLOT) ? now.player.recordOf(ago, what) : NO_ANSWER;
     }
 
     public int late(int what) {
@@ -445,7 +455,7 @@ public final class HeadsetBands {
             least = Math.min(least, lateness);
             greatest = Math.max(greatest, lateness);
             changes += ago == 0 ? 0 : Math.abs(lateness - now.player.lateness(ago - 1));
-            made += now.player.recordOf(ago, 1) == HEARD_MADE_UP ? 1 : 0;
+            made += now.player.recordOf(ago, RECORD_HOW) == HEARD_MADE_UP ? 1 : 0;
         }
         switch (what) {
             case 0:
@@ -1269,12 +1279,14 @@ public final class HeadsetBands {
         }
 
         private void findLag() {
+            lagSum = MOST_INT;
             for (int distance = LEAST_LAG; distance <= MOST_LAG; distance++) {
                 int sum = 0;
-                for (int i = KEPT_SAMPLES - FRAME_SAMPLES; i < KEPT_SAMPLES; i++) {
+                // What is no less already can't be the least any more.
+                for (int i = KEPT_SAMPLES - FRAME_SAMPLES; i < KEPT_SAMPLES && sum < lagSum; i++) {
                     sum += Math.abs(row[i] - row[i - distance]);
                 }
-                if (distance == LEAST_LAG || sum < lagSum) {
+                if (sum < lagSum) {
                     lag = distance;
                     lagSum = sum;
                 }
@@ -1308,7 +1320,7 @@ public final class HeadsetBands {
         final Queue buffer;
         final Ear[] ears = {new Ear(), new Ear()};
         final Frame frame = new Frame();
-        final int[] records = new int[TOLD_FRAMES * (TOLD_OF_A_FRAME + 1)];
+        final int[] records = new int[TOLD_FRAMES * RECORD_PLACES];
 
         Player(int[] numbers, Book book, Queue buffer) {
             this.numbers = numbers;
@@ -1341,11 +1353,11 @@ public final class HeadsetBands {
         }
 
         int lateness(int ago) {
-            return recordOf(ago, 6) - SLOTS_OF_A_FRAME * (numbers[NEXT] - 1 - ago);
+            return recordOf(ago, RECORD_SLOT) - SLOTS_OF_A_FRAME * (numbers[NEXT] - 1 - ago);
         }
 
         private static int recordAt(int number) {
-            return Math.floorMod(number, TOLD_FRAMES) * (TOLD_OF_A_FRAME + 1);
+            return Math.floorMod(number, TOLD_FRAMES) * RECORD_PLACES;
         }
 
         /** How many FRAMES are to be PLAYED at this SLOT. */
@@ -1376,12 +1388,12 @@ public final class HeadsetBands {
             }
             int how = byCode ? HEARD_BY_CODE : HEARD_MADE_UP;
             int at = recordAt(number);
-            records[at + 1] = how;
-            records[at + 2] = level;
-            records[at + 3] = numbers[TRIM];
-            records[at + 4] = compare(number, byCode);
-            records[at + 5] = fade;
-            records[at + 6] = slot;
+            records[at + RECORD_HOW] = how;
+            records[at + RECORD_LEVEL] = level;
+            records[at + RECORD_TRIM] = numbers[TRIM];
+            records[at + RECORD_OFF] = compare(number, byCode);
+            records[at + RECORD_FADE] = fade;
+            records[at + RECORD_SLOT] = slot;
             book.setHowHeard(number, how);
             numbers[NEXT]++;
             if (numbers[NEXT] % 8 == 0) {

@@ -25,6 +25,10 @@ public final class ModelTest {
         if (wrong == 0) {
             longRun(1);
             longRun(2);
+            beyondTheLastFrame();
+            for (int seed : new int[] {945, 1964, 2449, 2633, 4975, 574, 1381, 1417, 2421}) {
+                unseenDamage(seed);
+            }
         }
         System.out.println(wrong == 0 ? "class and model agree" : wrong + " runs differ");
         if (wrong != 0) {
@@ -32,7 +36,51 @@ public final class ModelTest {
         }
     }
 
-    /** To the last SLOT, with a clock so fast that the player gets beyond the last FRAME. */
+    /** A clock so fast at the end, with nothing coming, that the player gets beyond FRAME 2,499. */
+    private static void beyondTheLastFrame() {
+        ModelTest t = new ModelTest(3, 0);
+        for (int i = 0; i < 25 && wrong == 0; i++) {
+            if (i == 22) {
+                t.call("sets", 5, 100, 0, 0);
+                t.call("sets", 6, 50, 0, 0);
+                t.call("sets", 7, 1, 0, 0);
+            }
+            t.call("run", 400, 0, 0, 0);
+        }
+        for (int what = 0; what < 37; what++) {
+            t.call("count", what, 0, 0, 0);
+        }
+        for (int ago = 0; ago < 16; ago++) {
+            t.call("played", ago, 0, 0, 0);
+            t.call("played", ago, 4, 0, 0);
+        }
+        t.call("packet", 2499, 2, 0, 0);
+        if (t.x.count(7) <= 2501) {
+            wrong++;
+            System.out.println("the player did not get beyond the last frame: " + t.x.count(7));
+        }
+    }
+
+    /** Seeds by which damage that CHECK does not see makes POOL more than 128, or twins band 7. */
+    private static void unseenDamage(int seed) {
+        ModelTest t = new ModelTest(seed, 0);
+        t.call("tone", 0, 13, 2000, 500);
+        t.call("tone", 1, 29, 2000, 500);
+        t.call("sets", 2, 0, 0, 0);
+        t.call("sets", 0, seed, 0, 0);
+        t.call("sets", 10, 1000, 0, 0);
+        t.call("sets", 8, 10, 0, 0);
+        t.call("sets", 4, 16, 0, 0);
+        t.call("sets", 7, 1, 0, 0);
+        for (int i = 0; i < 40 && wrong == 0; i++) {
+            t.call("run", 4, 0, 0, 0);
+            t.call("count", 17, 0, 0, 0);
+            t.call("played", 0, 4, 0, 0);
+            t.call("heard", i % 2, i % 32, 0, 0);
+        }
+    }
+
+    /** To the last SLOT. */
     private static void longRun(int seed) {
         ModelTest t = new ModelTest(seed, 0);
         t.call("sets", 5, seed == 1 ? 0 : 30, 0, 0);

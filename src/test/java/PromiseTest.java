@@ -58,6 +58,8 @@ public final class PromiseTest {
         p30Would();
         p31Count();
         draws();
+        drawsOfErrors();
+        silence();
         steered();
         fullBuffer();
         refusedOrdersChangeNothing();
@@ -118,11 +120,10 @@ public final class PromiseTest {
             }
             for (int i = 0; i < 64; i++) {
                 all.add(x.source(c, i));
-                all.add(x.band(c, i / 8, i % 4, i % 3));
-            }
-            for (int i = 0; i < 8; i++) {
-                all.add(x.dealt(c, i, 0));
-                all.add(x.dealt(c, i, 2));
+                for (int what = 0; what < 4; what++) {
+                    all.add(x.band(c, i / 8, i % 4, what));
+                    all.add(x.dealt(c, i / 8, what));
+                }
             }
         }
         for (int i = -1; i < 80; i++) {
@@ -171,6 +172,11 @@ public final class PromiseTest {
         due("source(0, 0)", x.source(0, 0), -7);
         due("source(0, 1)", x.source(0, 1), 2);
         due("source(0, 2)", x.source(0, 2), 3);
+        due("tone(1, 2, 0, 1)", x.tone(1, 2, 0, 1), true);
+        due("NOISE 1: 4,660 modulo 3, less 1", x.source(1, 0), 0);
+        due("NOISE 1: 2,572 modulo 3, less 1", x.source(1, 1), 0);
+        due("NOISE 1: 484 modulo 3, less 1", x.source(1, 2), 0);
+        due("NOISE 1: 8,403 modulo 3, less 1", x.source(1, 3), -1);
         due("tone(1, 2, 0, 0)", x.tone(1, 2, 0, 0), true);
         due("silence", x.source(1, 1), 0);
     }
@@ -526,6 +532,12 @@ public final class PromiseTest {
             }
             due("least(0, " + cost + ")", x.least(0, cost), by);
         }
+        HeadsetBands y = new HeadsetBands();
+        y.tone(0, 13, 2000, 500);
+        y.tone(1, 29, 2000, 500);
+        y.run(1);
+        due("all of POOL is worth it", y.cost(128, 0) < y.cost(127, 0), true);
+        due("least of what 128 alone can", y.least(0, y.cost(128, 0)), 128);
         due("least(2, 9)", x.least(2, 999999), NONE);
         due("least(-1, 9)", x.least(-1, 999999), NONE);
         due("ahead of any", small().least(0, 999999), NONE);
@@ -563,6 +575,11 @@ public final class PromiseTest {
         x.loud(5, -4);
         due("the first of like ones", x.worst(128, 1, 0), 7);
         due("as much in 15", x.worst(128, 1, 1), 32);
+        for (int b = 0; b < 8; b++) {
+            x.loud(b, b == 1 ? 8 : -4);
+        }
+        due("band 1", x.worst(128, 1, 0), 1);
+        due("all that is there", x.worst(128, 1, 1), 18);
         due("worst(1, 1, 0)", x.worst(1, 1, 0), NONE);
         due("worst(129, 1, 0)", x.worst(129, 1, 0), NONE);
         due("worst(40, 2, 0)", x.worst(40, 2, 0), NONE);
@@ -611,6 +628,7 @@ public final class PromiseTest {
     private static void p21Damaged() {
         HeadsetBands x = smallCoded();
         due("a bit of byte 0", x.damaged(7, NONE), 0);
+        due("the first bit", x.damaged(0, NONE), 0);
         due("byte 0 comes first", x.damaged(151, 0), 0);
         for (int bit = 8; bit < 152; bit++) {
             due("one bit " + bit, x.damaged(bit, NONE), 1);
@@ -1036,6 +1054,33 @@ public final class PromiseTest {
         w.sets(0, 1);
         w.run(2);
         due("SEED told anew: 840 again", w.packet(1, 3), 4);
+    }
+
+    /** With ERRORS 1 a DRAW is made for each piece that comes over, also if it damages none. */
+    private static void drawsOfErrors() {
+        for (int errors = 0; errors < 2; errors++) {
+            HeadsetBands x = small();
+            x.sets(10, errors);
+            x.run(4);
+            x.sets(5, 41);
+            x.run(1);
+            due("second or third draw", x.packet(1, 0), errors == 0 ? 1 : 2);
+        }
+    }
+
+    private static void silence() {
+        HeadsetBands x = new HeadsetBands();
+        x.tone(0, 2, 0, 0);
+        x.tone(1, 2, 0, 0);
+        x.run(40);
+        due("no bits", x.share(-1), 0);
+        due("the head alone", x.code(-1), 13);
+        due("no twins: not less", x.code(4), 0);
+        due("nothing off", x.coded(40, 1, 1, 3), 0);
+        due("nothing off of what is heard", x.count(18), 0);
+        due("all by code", x.count(13), x.count(7));
+        due("worst is the first", x.worst(40, 0, 0), 0);
+        due("least", x.least(0, 0), 2);
     }
 
     private static void steered() {
