@@ -1,29 +1,15 @@
-import java.util.ArrayList;
-import java.util.List;
-
 /** Each promise by itself: ordinary inputs, the edges the document names, wrong inputs. Numbers reckoned by hand. */
 public final class PromiseTest {
     private static final int NONE = HeadsetBands.NONE;
     private static final int MIN = Integer.MIN_VALUE;
-    private static final int[] WILD = {MIN, MIN + 100, -1000000, -2, Integer.MAX_VALUE, 1000000};
-    private static int wrong = 0;
+    private static final Checks CHECKS = new Checks();
 
     private static void due(String what, long got, long want) {
-        if (got != want) {
-            wrong++;
-            System.out.println(what + " answered " + got + ", due is " + want);
-        }
+        CHECKS.due(what, got, want);
     }
 
     private static void due(String what, boolean got, boolean want) {
-        due(what, got ? 1 : 0, want ? 1 : 0);
-    }
-
-    private static void same(String what, List<Integer> got, List<Integer> want) {
-        if (!got.equals(want)) {
-            wrong++;
-            System.out.println(what + ": something is not as it was");
-        }
+        CHECKS.due(what, got, want);
     }
 
     public static void main(String[] args) {
@@ -62,14 +48,7 @@ public final class PromiseTest {
         silence();
         steered();
         fullBuffer();
-        refusedOrdersChangeNothing();
-        questionsChangeNothing();
-        wildNumbers();
-        aheadOfAnyFrame();
-        System.out.println(wrong == 0 ? "all promises are kept" : wrong + " answers are not as due");
-        if (wrong != 0) {
-            System.exit(1);
-        }
+        CHECKS.end();
     }
 
     /**
@@ -93,43 +72,6 @@ public final class PromiseTest {
         HeadsetBands x = new HeadsetBands();
         x.run(n);
         return x;
-    }
-
-    /** What an object answers, but for what calls on paper alone tell. */
-    private static List<Integer> answers(HeadsetBands x) {
-        List<Integer> all = new ArrayList<>();
-        for (int what = 0; what < 48; what++) {
-            all.add(x.count(what));
-        }
-        int coded = x.count(1);
-        for (int k = Math.max(0, coded - 12); k < coded + 3; k++) {
-            for (int what = 0; what < 4; what++) {
-                all.add(x.packet(k, what));
-            }
-        }
-        for (int i = 0; i < 16; i++) {
-            for (int what = 0; what < 7; what++) {
-                all.add(x.line(i, what));
-                all.add(x.played(i, what));
-            }
-            all.add(x.delays(i, 0));
-        }
-        for (int c = 0; c < 2; c++) {
-            for (int i = 0; i < 192; i++) {
-                all.add(x.heard(c, i));
-            }
-            for (int i = 0; i < 64; i++) {
-                all.add(x.source(c, i));
-                for (int what = 0; what < 4; what++) {
-                    all.add(x.band(c, i / 8, i % 4, what));
-                    all.add(x.dealt(c, i / 8, what));
-                }
-            }
-        }
-        for (int i = -1; i < 80; i++) {
-            all.add(x.code(i));
-        }
-        return all;
     }
 
     private static void p1NewObject() {
@@ -282,65 +224,73 @@ public final class PromiseTest {
     }
 
     private static void p7Restart() {
-        HeadsetBands x = new HeadsetBands();
-        due("restart() of a new one", x.restart(), 0);
-        x.tone(0, 30, 900, 40);
-        x.sets(0, 777);
-        x.sets(5, 30);
-        x.sets(9, 1);
-        x.sets(10, 300);
-        x.loud(3, 7);
-        List<Integer> fresh = answers(x);
-        x.burst(7);
-        x.run(203);
-        x.keep(1);
-        due("restart()", x.restart(), 203);
-        same("restart()", answers(x), fresh);
-        x.run(150);
-        List<Integer> first = answers(x);
-        x.restart();
-        x.run(150);
-        same("the same once more", answers(x), first);
-        due("what is kept stays", x.again(1), true);
-        due("as kept", x.count(0), 203);
+        due("restart() of a new one", new HeadsetBands().restart(), 0);
+        Checks.Calls told = x -> {
+            x.tone(0, 30, 900, 40);
+            x.sets(0, 777);
+            x.sets(1, 60);
+            x.sets(5, 30);
+            x.sets(6, -20);
+            x.sets(7, 3);
+            x.sets(9, 1);
+            x.sets(10, 300);
+            x.loud(3, 7);
+        };
+        Checks.Calls ran = x -> {
+            x.run(203);
+            x.burst(7);
+            x.keep(1);
+        };
+        Checks.Calls anew = x -> x.restart();
+        due("restart()", Checks.after(Checks.inOrder(told, ran)).restart(), 203);
+        CHECKS.same("restart(): all as at first but what was told", Checks.inOrder(told, ran, anew), told);
+        CHECKS.same("restart() twice", Checks.inOrder(told, ran, anew, anew), told);
+        CHECKS.same("the same once more", Checks.inOrder(told, ran, anew, x -> x.run(150)),
+            Checks.inOrder(told, x -> x.run(150)));
+        CHECKS.same("what is kept stays", Checks.inOrder(told, ran, anew, x -> x.run(50), x -> x.again(1)),
+            Checks.inOrder(told, ran));
+        HeadsetBands last = new HeadsetBands();
+        Story.pass(last, 10000);
+        due("restart() behind the last SLOT", last.restart(), 10000);
+        due("SLOT 0 is to come", last.count(0), 0);
+        due("and comes", last.run(400) > 0, true);
     }
 
     private static void p8p9KeepAgain() {
-        HeadsetBands x = new HeadsetBands();
-        due("again(0) of nothing", x.again(0), false);
-        due("again(1) of nothing", x.again(1), false);
-        due("keep(2)", x.keep(2), false);
-        due("keep(-1)", x.keep(-1), false);
-        due("again(2)", x.again(2), false);
-        due("again(-1)", x.again(-1), false);
-        x.sets(5, 40);
-        x.sets(10, 200);
-        x.sets(6, 17);
-        x.tone(1, 33, 700, 90);
-        x.loud(2, -3);
-        x.run(77);
-        x.burst(2);
-        List<Integer> then = answers(x);
-        due("keep(0)", x.keep(0), true);
-        due("again(1), nothing under it", x.again(1), false);
-        x.run(90);
-        List<Integer> later = answers(x);
-        due("keep(1)", x.keep(1), true);
-        x.tone(1, 50, 100, 0);
-        x.sets(0, 5);
-        x.sets(5, 0);
-        x.loud(2, 1);
-        x.burst(50);
-        x.run(40);
-        due("again(0)", x.again(0), true);
-        same("as kept under 0", answers(x), then);
-        x.run(90);
-        same("goes on as it went on", answers(x), later);
-        x.restart();
-        due("again(1)", x.again(1), true);
-        same("as kept under 1", answers(x), later);
-        due("again(0) once more", x.again(0), true);
-        same("as kept under 0, still", answers(x), then);
+        Checks.Calls first = x -> {
+            x.sets(5, 40);
+            x.sets(10, 200);
+            x.sets(6, 17);
+            x.tone(1, 33, 700, 90);
+            x.loud(2, -3);
+            x.run(77);
+            x.burst(2);
+        };
+        Checks.Calls other = x -> {
+            x.tone(1, 50, 100, 0);
+            x.sets(0, 5);
+            x.sets(5, 0);
+            x.sets(1, 100);
+            x.loud(2, 1);
+            x.burst(50);
+            x.run(40);
+        };
+        Checks.Calls more = x -> x.run(90);
+        Checks.Calls keep0 = x -> due("keep(0)", x.keep(0), true);
+        Checks.Calls keep1 = x -> due("keep(1)", x.keep(1), true);
+        Checks.Calls again0 = x -> due("again(0)", x.again(0), true);
+        Checks.Calls again1 = x -> due("again(1)", x.again(1), true);
+        CHECKS.same("keep() changes nothing", Checks.inOrder(first, keep0), first);
+        CHECKS.same("as kept", Checks.inOrder(first, keep0, other, again0), first);
+        CHECKS.same("goes on as it went on", Checks.inOrder(first, keep0, other, again0, more),
+            Checks.inOrder(first, more));
+        CHECKS.same("again() once more", Checks.inOrder(first, keep0, other, again0, more, again0), first);
+        CHECKS.same("0 of both", Checks.inOrder(first, keep0, more, keep1, other, again0), first);
+        CHECKS.same("1 of both", Checks.inOrder(first, keep0, more, keep1, other, again1), Checks.inOrder(first, more));
+        CHECKS.same("kept anew", Checks.inOrder(keep0, first, keep0, other, again0), first);
+        CHECKS.same("kept at first", Checks.inOrder(keep1, first, again1), x -> { });
+        CHECKS.same("kept behind again()", Checks.inOrder(first, keep0, other, again0, keep1, other, again1), first);
+        CHECKS.same("restart() of what was kept", Checks.inOrder(first, keep0, x -> x.restart(), again0), first);
     }
 
     private static void p10Source() {
@@ -526,6 +476,7 @@ public final class PromiseTest {
         due("least(0, huge)", x.least(0, Integer.MAX_VALUE), 2);
         due("least(0, -1)", x.least(0, -1), NONE);
         for (int cost = 0; cost < 900; cost += 37) {
+            x = smallCoded();
             int by = NONE;
             for (int pool = 128; pool >= 2; pool--) {
                 by = x.cost(pool, 0) <= cost ? pool : by;
@@ -648,14 +599,14 @@ public final class PromiseTest {
         y.tone(0, 13, 2000, 500);
         y.tone(1, 29, 2000, 500);
         y.run(1);
-        int unseen = 0;
-        int last = 8 * y.code(-1);
-        for (int other = 33; other < last; other++) {
-            unseen += y.damaged(32, other) == 2 ? 1 : 0;
+        due("616 bits", y.code(-1), 77);
+        for (int other = 33; other < 400; other++) {
+            due("bits 32 and " + other, y.damaged(32, other), other == 32 + 255 ? 2 : 1);
         }
-        due("some two bits are not seen", unseen > 0, true);
-        due("but 255 apart alone", unseen, last - 1 >= 32 + 510 ? 2 : last - 1 >= 32 + 255 ? 1 : 0);
-        due("two bits 255 apart", y.damaged(32, 287), 2);
+        for (int apart : new int[] {254, 255, 256, 509, 510, 511}) {
+            due(apart + " apart", y.damaged(100, 100 + apart), apart % 255 == 0 ? 2 : 1);
+            due(apart + " apart, the other way", y.damaged(100 + apart, 100), apart % 255 == 0 ? 2 : 1);
+        }
     }
 
     private static void p22Heard() {
@@ -714,10 +665,12 @@ public final class PromiseTest {
         due("madeUp(0, -1)", x.madeUp(0, -1), MIN);
         due("madeUp(-1, 0)", x.madeUp(-1, 0), MIN);
         due("madeUp(2, 0)", x.madeUp(2, 0), MIN);
-        x.sets(2, 0);
-        x.sets(1, 128);
-        x.sets(8, 80);
-        x.run(100);
+        Story story = new Story().when(0, z -> {
+            z.sets(2, 0);
+            z.sets(1, 128);
+            z.sets(8, 80);
+        }).when(100, z -> z.burst(99));
+        x = story.at(100);
         due("LAG near the period", Math.abs(x.madeUp(0, 0) - 40) <= 1 || x.madeUp(0, 0) % 40 <= 1, true);
         int lag = x.madeUp(1, 0);
         int sum = 0;
@@ -725,27 +678,17 @@ public final class PromiseTest {
             sum += Math.abs(x.heard(1, i) - x.heard(1, i + lag));
         }
         due("its sum", x.madeUp(1, 1), sum);
-        for (int other = 16; other <= 120; other++) {
-            int its = 0;
-            for (int i = 0; i < 32; i++) {
-                its += Math.abs(x.heard(1, i) - x.heard(1, i + other));
-            }
-            due("no less, or the least of like ones: " + other, its > sum || (its == sum && other >= lag), true);
-        }
         due("SAMPLE 0", x.madeUp(1, 2), x.heard(1, lag - 1));
+        int slots = 100;
+        while (story.at(slots + 1).count(14) == 0) {
+            slots++;
+        }
+        x = story.at(slots);
         int[] told = new int[32];
         for (int i = 0; i < 32; i++) {
             told[i] = x.madeUp(1, 2 + i);
         }
-        x.burst(99);
-        while (x.count(14) == 0) {
-            x.run(1);
-            if (x.count(14) == 0) {
-                for (int i = 0; i < 32; i++) {
-                    told[i] = x.madeUp(1, 2 + i);
-                }
-            }
-        }
+        x.run(1);
         for (int i = 0; i < 32; i++) {
             due("made up as told " + i, x.heard(1, 31 - i), told[i]);
         }
@@ -1150,135 +1093,5 @@ public final class PromiseTest {
         x.run(32);
         due("no reason to steer", x.count(31) > used, true);
         due("made up till then", x.count(14), x.count(7));
-    }
-
-    private static void refusedOrdersChangeNothing() {
-        HeadsetBands x = new HeadsetBands();
-        x.sets(5, 30);
-        x.run(61);
-        List<Integer> before = answers(x);
-        for (int v : WILD) {
-            x.tone(v, 40, 5, 5);
-            x.tone(0, v, 5, 5);
-            x.tone(0, 40, v, 5);
-            x.tone(0, 40, 5, v);
-            x.sets(v, 1);
-            for (int what = 0; what < 11; what++) {
-                x.sets(what, what == 6 ? v - 50 : v);
-            }
-            x.loud(v, 1);
-            x.loud(1, v - 4);
-            x.burst(v);
-            x.run(v);
-            x.keep(v);
-            x.again(v);
-        }
-        x.again(0);
-        x.again(1);
-        x.run(401);
-        same("refused orders", answers(x), before);
-    }
-
-    private static void questionsChangeNothing() {
-        HeadsetBands x = new HeadsetBands();
-        HeadsetBands y = new HeadsetBands();
-        for (HeadsetBands z : new HeadsetBands[] {x, y}) {
-            z.sets(5, 50);
-            z.sets(10, 100);
-            z.run(93);
-        }
-        List<Integer> before = answers(x);
-        for (int i = 0; i < 8; i++) {
-            x.dealtBy(100, 0, 1, i);
-            x.spectrum(0, i);
-            x.madeUp(i % 2, 4 * i);
-            x.coded(17 * i, i % 2, i / 4, i % 4);
-            x.late(i);
-        }
-        x.cost(100, 0);
-        x.least(0, 50);
-        x.worst(100, 0, 0);
-        x.damaged(5, 9);
-        x.damaged(40, NONE);
-        x.would(100, 0);
-        same("questions", answers(x), before);
-        x.run(50);
-        y.run(50);
-        same("what comes behind questions", answers(x), answers(y));
-    }
-
-    private static void wildNumbers() {
-        HeadsetBands x = ran(50);
-        for (int v : WILD) {
-            due("source", x.source(v, 0), MIN);
-            due("source", x.source(0, v), MIN);
-            due("band", x.band(v, 0, 0, 0), MIN);
-            due("band", x.band(0, v, 0, 0), MIN);
-            due("band", x.band(0, 0, v, 0), MIN);
-            due("band", x.band(0, 0, 0, v), MIN);
-            due("dealt", x.dealt(v, 0, 0), MIN);
-            due("dealt", x.dealt(0, v, 0), MIN);
-            due("dealt", x.dealt(0, 0, v), MIN);
-            due("code", x.code(v), NONE);
-            due("dealtBy", x.dealtBy(v, 0, 0, 0), NONE);
-            due("dealtBy", x.dealtBy(40, v, 0, 0), NONE);
-            due("dealtBy", x.dealtBy(40, 0, v, 0), NONE);
-            due("dealtBy", x.dealtBy(40, 0, 0, v), NONE);
-            due("cost", x.cost(v, 0), NONE);
-            due("cost", x.cost(40, v), NONE);
-            due("least", x.least(v, 100000), NONE);
-            due("least", x.least(0, v), v > 0 ? 2 : NONE);
-            due("coded", x.coded(v, 0, 0, 0), NONE);
-            due("coded", x.coded(40, v, 0, 0), NONE);
-            due("coded", x.coded(40, 0, v, 0), NONE);
-            due("coded", x.coded(40, 0, 0, v), NONE);
-            due("worst", x.worst(v, 0, 0), NONE);
-            due("worst", x.worst(40, v, 0), NONE);
-            due("worst", x.worst(40, 0, v), NONE);
-            due("paired", x.paired(v, 0), NONE);
-            due("paired", x.paired(0, v), NONE);
-            due("share", x.share(v), NONE);
-            due("damaged", x.damaged(v, NONE), NONE);
-            due("damaged", x.damaged(0, v), NONE);
-            due("heard", x.heard(v, 0), MIN);
-            due("heard", x.heard(0, v), MIN);
-            due("spectrum", x.spectrum(v, 0), MIN);
-            due("spectrum", x.spectrum(0, v), MIN);
-            due("madeUp", x.madeUp(v, 0), MIN);
-            due("madeUp", x.madeUp(0, v), MIN);
-            due("line", x.line(v, 0), NONE);
-            due("line", x.line(0, v), NONE);
-            due("packet", x.packet(v, 0), NONE);
-            due("packet", x.packet(0, v), NONE);
-            due("played", x.played(v, 0), MIN);
-            due("played", x.played(0, v), MIN);
-            due("late", x.late(v), MIN);
-            due("delays", x.delays(v, 0), NONE);
-            due("delays", x.delays(0, v), NONE);
-            due("would", x.would(v, 0), MIN);
-            due("would", x.would(1, v), MIN);
-            due("count", x.count(v), MIN);
-        }
-    }
-
-    private static void aheadOfAnyFrame() {
-        HeadsetBands x = ran(100);
-        x.restart();
-        due("band", x.band(0, 0, 0, 0), MIN);
-        due("dealt", x.dealt(0, 0, 0), MIN);
-        due("code(-1)", x.code(-1), NONE);
-        due("dealtBy", x.dealtBy(40, 0, 0, 0), NONE);
-        due("cost", x.cost(40, 0), NONE);
-        due("least", x.least(0, 1000000), NONE);
-        due("coded", x.coded(40, 0, 0, 0), NONE);
-        due("worst", x.worst(40, 0, 0), NONE);
-        due("paired", x.paired(0, 0), NONE);
-        due("share", x.share(0), NONE);
-        due("damaged", x.damaged(0, NONE), NONE);
-        due("heard", x.heard(0, 0), 0);
-        due("madeUp", x.madeUp(0, 1), 0);
-        due("spectrum", x.spectrum(0, 0), 0);
-        due("played", x.played(0, 0), MIN);
-        due("late", x.late(3), MIN);
     }
 }
