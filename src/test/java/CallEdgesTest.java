@@ -24,7 +24,6 @@ public final class CallEdgesTest {
         pairedOfBands();
         shareOfBoth();
         damagedBits();
-        spectrumOfTheLast();
         lineOfPackets();
         packetAllItsLife();
         packetsOfAllNumbers();
@@ -400,6 +399,42 @@ public final class CallEdgesTest {
             z.loud(b, 8);
         }
         due("LOUD as it is", z.coded(128, 1, 1, 0) < z.code(NONE), true);
+        greatestIsTheFirst();
+        greatestIsTheLast();
+    }
+
+    /** No bits at all: what is greatest as SPLIT is furthest off. */
+    private static HeadsetBands unheard(int left, int right, int slots) {
+        HeadsetBands x = new HeadsetBands();
+        x.tone(0, 200, left, 0);
+        x.tone(1, 2, right, 0);
+        for (int b = 0; b < 8; b++) {
+            x.loud(b, 8);
+        }
+        x.run(slots);
+        due("no BITS", x.coded(128, 1, 0, 0), 13);
+        return x;
+    }
+
+    private static void greatestIsTheFirst() {
+        // FRAME 13 begins at SAMPLE 416, of -67, and goes to 0
+        HeadsetBands x = unheard(80, 0, 53);
+        int first = Math.abs(x.band(0, 0, 0, 0));
+        int others = 0;
+        for (int i = 1; i < 64; i++) {
+            others = Math.max(others, Math.abs(x.band(i / 32, i / 4 % 8, i % 4, 0)));
+        }
+        due("BLOCK 0 of BAND 0, CHANNEL 0", first > others, true);
+        due("the greatest", x.coded(128, 1, 0, 3), first);
+    }
+
+    private static void greatestIsTheLast() {
+        HeadsetBands x = unheard(0, 60, 1);
+        int most = 0;
+        for (int k = 0; k < 4; k++) {
+            most = Math.max(most, Math.abs(x.band(1, 4, k, 0)));
+        }
+        due("of BAND 4, CHANNEL 1", x.coded(128, 1, 0, 3), most);
     }
 
     // Promise 18: "the first of like ones"
@@ -510,36 +545,6 @@ public final class CallEdgesTest {
         due("last bit and CHECK, seen", x.damaged(last, 31), 1);
     }
 
-    // Promise 23: the last 32 SAMPLES HEARD, by NODES whose MEMORIES are 0 at first
-    private static void spectrumOfTheLast() {
-        HeadsetBands x = new HeadsetBands();
-        x.tone(0, 2, 64, 0);
-        x.tone(1, 2, 0, 0);
-        x.sets(1, 128);
-        x.sets(2, 0);
-        x.sets(3, 0);
-        x.run(200);
-        for (int i = 0; i < 32; i++) {
-            int far = Math.abs(x.heard(0, i) - (i % 2 == 0 ? 64 : -64));
-            due("heard nearly", far <= 1, true);
-        }
-        HeadsetBands y = small();
-        y.run(1);
-        int exact = 0;
-        for (int b = 0; b < 8; b++) {
-            int sum = 0;
-            for (int k = 0; k < 4; k++) {
-                sum += Math.abs(y.band(0, b, k, 0));
-            }
-            int got = x.spectrum(0, b);
-            due("as the first FRAME of it, nearly: BAND " + b, Math.abs(got - sum) <= 12, true);
-            exact += got;
-            due("silence", x.spectrum(1, b), 0);
-        }
-        due("asked twice", x.spectrum(0, 4), x.spectrum(0, 4));
-        due("not nothing", exact > 500, true);
-    }
-
     // Promise 25
     private static void lineOfPackets() {
         HeadsetBands x = small();
@@ -617,6 +622,7 @@ public final class CallEdgesTest {
         due("2,498", x.packet(2498, 3), 9992);
         x.run(1);
         due("2,499 ARRIVED", x.packet(2499, 3), 9996);
+        due("2,499 was SENT", x.packet(2499, 1), 1);
         due("not PLAYED", x.packet(2499, 2), 0);
         x.run(3);
         due("2,498 heard", x.packet(2498, 2), 1);
@@ -714,6 +720,15 @@ public final class CallEdgesTest {
         due("the least", y.late(0), 8);
         due("the greatest", y.late(1), lates[frames - 1]);
         due("changes", y.late(2), lates[frames - 1] - 8);
+        // a quick one: 1,050 a SLOT, so that the first is the latest
+        HeadsetBands v = small();
+        v.sets(6, 50);
+        v.run(35);
+        due("35 SLOTS", v.count(7), 8);
+        due("the greatest is the first", v.late(1), 7);
+        due("the least is the last", v.late(0), v.played(0, 6) - 4 * 7);
+        due("less by one", v.late(0), 6);
+        due("changes", v.late(2), 1);
         // all but one of the last sixteen MADE UP, then all
         HeadsetBands z = small();
         z.run(8);

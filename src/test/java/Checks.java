@@ -66,16 +66,19 @@ final class Checks {
         };
     }
 
-    /** All that an object tells behind these calls, then behind 37 SLOTS more: what it holds unseen shows there. */
+    /**
+     * All that an object tells behind these calls, then behind one FRAME more (what it holds unseen shows there), then
+     * behind some more.
+     */
     static List<Integer> answers(Calls calls) {
         List<Integer> all = new ArrayList<>();
-        for (int later = 0; later < 2; later++) {
+        for (int later : new int[] {0, 4, 37}) {
             HeadsetBands x = null;
             for (int i = 0; i < QUESTIONS.size(); i++) {
                 if (i % QUESTIONS_OF_ONE_OBJECT == 0) {
                     x = after(calls);
-                    if (later == 1) {
-                        x.run(37);
+                    if (later > 0) {
+                        x.run(later);
                     }
                 }
                 all.add(QUESTIONS.get(i).applyAsInt(x));

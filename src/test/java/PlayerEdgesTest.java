@@ -21,7 +21,9 @@ public final class PlayerEdgesTest {
         heardByWhatTheCodeTells();
         heardByLoudAsItIs();
         bitsBehindTheEndAreZero();
+        hearerTakesWhatCameOver();
         samplesKept();
+        spectrumOfTheLast();
         lagOfSixteenToOneHundredTwenty();
         leastOfLikeLags();
         plainOnesBehindThoseKept();
@@ -289,6 +291,33 @@ public final class PlayerEdgesTest {
             return row;
         }
 
+        /** S and D of a row. */
+        private int[][] split(int node, int[] row) {
+            int[][] both = new int[2][row.length / 2];
+            for (int i = 0; i < row.length / 2; i++) {
+                int d = row[2 * i] - Math.floorDiv(a[node] + row[2 * i + 1], 2);
+                both[0][i] = row[2 * i + 1] + Math.floorDiv(b[node] + d, 4);
+                both[1][i] = d;
+                a[node] = row[2 * i + 1];
+                b[node] = d;
+            }
+            return both;
+        }
+
+        int[] bands(int[] samples) {
+            int[][] one = split(1, samples);
+            int[] all = new int[8];
+            for (int half = 0; half < 2; half++) {
+                int[][] two = split(2 + half, one[half]);
+                for (int quarter = 0; quarter < 2; quarter++) {
+                    int[][] last = split(4 + 2 * half + quarter, two[quarter]);
+                    all[4 * half + 2 * quarter] = last[0][0];
+                    all[4 * half + 2 * quarter + 1] = last[1][0];
+                }
+            }
+            return all;
+        }
+
         private int[] pair(int node, int s, int d) {
             return join(node, new int[] {s}, new int[] {d});
         }
@@ -496,6 +525,98 @@ public final class PlayerEdgesTest {
         heardBy(x, 3);
     }
 
+    /** The n-th DRAW (1 on) by a SEED. */
+    private static int drawn(long seed, int n) {
+        long s = seed;
+        for (int i = 0; i < n; i++) {
+            s = (1103 * s + 12345) % 1000003;
+        }
+        return (int) (s / 16);
+    }
+
+    /** 45 bytes in PIECES of 30 and 15, each DAMAGED in one bit, told by the SEED. */
+    private static void coded45(HeadsetBands x, int pool) {
+        x.tone(0, 13, 2000, 0);
+        x.tone(1, 29, 2000, 0);
+        x.sets(1, pool);
+        x.sets(7, 1);
+        x.sets(10, 1000);
+    }
+
+    /** A bit of the first PIECE and the one of the second that makes CHECK right again; a SEED that damages both. */
+    private static int[] unseenBits(int pool, int bit) {
+        HeadsetBands x = new HeadsetBands();
+        coded45(x, pool);
+        x.run(1);
+        int bytes = x.code(NONE);
+        int other = 240;
+        while (x.damaged(bit, other) == 1) {
+            other++;
+        }
+        int seed = 0;
+        while (drawn(seed, 3) % 240 != bit || drawn(seed, 6) % (8 * bytes - 240) != other - 240) {
+            seed++;
+        }
+        return new int[] {other, seed};
+    }
+
+    // IN FULL: METHOD from bit 7 of byte 1, POOL from byte 2 (0 .. 255), TWINNED BANDS from all eight bits of byte 4
+    private static void hearerTakesWhatCameOver() {
+        unseen("METHOD", 64, 8, 64, 0, 0);
+        unseen("PAIRED matters not", 64, 9, 64, 1, 0);
+        unseen("the number matters not", 64, 10, 64, 1, 0);
+        // NEEDS by loudness are less than 128 in all, so that 192 is as good as 128
+        unseen("POOL 192", 64, 16, 128, 1, 0);
+        unseen("POOL 0", 64, 17, 0, 1, 0);
+        unseen("POOL 1", 65, 17, 0, 1, 0);
+        unseen("POOL 2", 66, 17, 2, 1, 0);
+        unseen("BAND 7 TWINNED", 64, 32, 64, 1, 128);
+        unseen("BAND 6 the other way", 64, 33, 64, 1, 64);
+        unseen("BAND 0 the other way", 64, 39, 64, 1, 1);
+    }
+
+    private static void unseen(String what, int pool, int bit, int heardPool, int heardMethod, int turned) {
+        int[] found = unseenBits(pool, bit);
+        HeadsetBands x = new HeadsetBands();
+        coded45(x, pool);
+        x.sets(0, found[1]);
+        x.run(2);
+        due(what + ": ARRIVED", x.packet(0, 3), 1);
+        due(what + ": DAMAGED", x.count(33), 2);
+        StringBuilder code = new StringBuilder();
+        for (int i = 0; i < 8 * x.code(NONE); i++) {
+            int one = (x.code(i / 8) >> (7 - i % 8)) & 1;
+            code.append(i == bit || i == found[0] ? 1 - one : one);
+        }
+        code.append("0".repeat(4 * 128));
+        int[][][] bands = new int[2][4][8];
+        int at = 8 * 13;
+        for (int i = 0; i < 64; i++) {
+            int c = i / 8 % 2;
+            int b = i % 8;
+            int bits = heardPool == 0 ? 0 : x.dealtBy(heardPool, heardMethod, c, b);
+            int scale = x.dealt(c, b, 0);
+            long q = bits == 0 ? 0 : Integer.parseInt(code.substring(at, at + bits), 2);
+            at += bits;
+            bands[c][i / 16][b] = bits == 0 ? 0
+                : (int) (Math.floorDiv((2 * q + 1) << scale, (1L << bits) - 1) - (1L << scale));
+        }
+        for (int i = 0; i < 32; i++) {
+            if ((((x.code(4) ^ turned) >> (i % 8)) & 1) == 1) {
+                int side = bands[1][i / 8][i % 8];
+                bands[0][i / 8][i % 8] += Math.floorDiv(side + 1, 2);
+                bands[1][i / 8][i % 8] = bands[0][i / 8][i % 8] - side;
+            }
+        }
+        due(what + ": one FRAME", x.run(3), 1);
+        for (int c = 0; c < 2; c++) {
+            int[] samples = joined(new Nodes(), bands[c]);
+            for (int i = 0; i < 32; i++) {
+                due(what + ": CHANNEL " + c + ", SAMPLE " + i, x.heard(c, 31 - i), samples[i]);
+            }
+        }
+    }
+
     // "Of HEARD SAMPLES the last 192 of each CHANNEL are kept (0 ahead of any)"
     private static void samplesKept() {
         Story story = new Story().when(0, x -> {
@@ -526,6 +647,32 @@ public final class PlayerEdgesTest {
         HeadsetBands seven = story.at(28);
         HeadsetBands two = story.at(8);
         due("kept no more", seven.heard(0, 191), two.heard(0, 31));
+    }
+
+    // Promise 23: the last 32 SAMPLES HEARD, SPLIT by NODES of their own (MEMORIES 0 at first)
+    private static void spectrumOfTheLast() {
+        Story story = new Story().when(0, PlayerEdgesTest::loudSound).when(20, x -> x.burst(9));
+        for (int slots : new int[] {7, 8, 12, 30, 60}) {
+            for (int c = 0; c < 2; c++) {
+                HeadsetBands x = story.at(slots);
+                Nodes nodes = new Nodes();
+                int[] sums = new int[8];
+                for (int k = 0; k < 4; k++) {
+                    int[] samples = new int[8];
+                    for (int i = 0; i < 8; i++) {
+                        samples[i] = x.heard(c, 31 - 8 * k - i);
+                    }
+                    int[] bands = nodes.bands(samples);
+                    for (int b = 0; b < 8; b++) {
+                        sums[b] += Math.abs(bands[b]);
+                    }
+                }
+                for (int b = 0; b < 8; b++) {
+                    due("spectrum(" + c + ", " + b + ") behind " + slots, x.spectrum(c, b), sums[b]);
+                    due("asked twice", x.spectrum(c, b), sums[b]);
+                }
+            }
+        }
     }
 
     private static int sumOfLag(int[] row, int lag) {

@@ -271,6 +271,10 @@ public final class PromiseTest {
             x.sets(0, 5);
             x.sets(5, 0);
             x.sets(1, 100);
+            x.sets(2, 0);
+            x.sets(3, 0);
+            x.sets(8, 50);
+            x.sets(9, 1);
             x.loud(2, 1);
             x.burst(50);
             x.run(40);

@@ -288,6 +288,15 @@ public final class SoundEdgesTest {
         one.run(1);
         due("SCALE of -1, 0, 0, 0", one.dealt(0, 5, 0), 1);
         due("SCALE of 0", one.dealt(0, 0, 0), 0);
+        // the SIDES 2,337, -1,204, -8,270, 1,278: about the most that a SOURCE makes
+        HeadsetBands most = new HeadsetBands();
+        most.tone(0, 3, 2000, 500);
+        most.tone(1, 7, 2000, 500);
+        most.sets(0, 777);
+        most.run(9);
+        due("below -8,192", most.band(1, 3, 2, 1), -8270);
+        due("SCALE 14", most.dealt(1, 3, 0), 14);
+        due("in the CODE", most.code(10) % 16, 14);
         allScales();
     }
 
@@ -355,6 +364,17 @@ public final class SoundEdgesTest {
             due("NEED 6 of " + pool, x.dealtBy(pool, 1, 0, 4), Math.min(6, pool));
         }
         due("BITS of all by it", x.coded(128, 1, 1, 0), 13 + 3);
+        // BAND 4 alone: -4,000, SCALE 12
+        HeadsetBands y = toned(2, 2000, 0);
+        y.sets(1, 128);
+        y.sets(2, 0);
+        y.run(9);
+        for (int pool = 2; pool < 15; pool++) {
+            due("NEED 12 of " + pool, y.dealtBy(pool, 0, 0, 4), Math.min(12, pool));
+        }
+        due("twelve BITS of -4,000", y.band(0, 4, 0, 2), 47);
+        due("come back", y.band(0, 4, 0, 3), -4001);
+        due("bytes", y.code(NONE), 13 + 6);
     }
 
     private static void dealt(HeadsetBands x, int pool, int want3, int want7, int want15) {
