@@ -530,19 +530,25 @@ public final class CallEdgesTest {
         unseenBits();
     }
 
+    // the highest bit first: a bit 255 - 8 ahead of the last changes the lowest bit of CHECK alone
     private static void unseenBits() {
-        // a bit of the data whose change of CHECK is one bit alone, and that bit of CHECK: not seen
         HeadsetBands x = broad();
         x.sets(1, 128);
         x.sets(2, 0);
         x.run(1);
         int last = 8 * x.code(NONE) - 1;
+        for (int bit = 0; bit < 8; bit++) {
+            due("bit " + bit + " of CHECK and its like", x.damaged(31 - bit, last - 247 - bit), 2);
+            due("the other way", x.damaged(last - 247 - bit, 31 - bit), 2);
+            due("the next one", x.damaged(31 - bit, last - 246 - bit), 1);
+            due("the one ahead", x.damaged(31 - bit, last - 248 - bit), 1);
+            due("of the like alone", x.damaged(last - 247 - bit, NONE), 1);
+        }
         int unseen = 0;
-        for (int bit = 32; bit <= 32 + 254; bit++) {
+        for (int bit = 32; bit < 32 + 255; bit++) {
             unseen += x.damaged(bit, 31) == 2 ? 1 : 0;
         }
         due("one of 255 bits with the last of CHECK", unseen, 1);
-        due("last bit and CHECK, seen", x.damaged(last, 31), 1);
     }
 
     // Promise 25

@@ -80,6 +80,8 @@ public final class LanguageTest {
             if (!Modifier.isPrivate(m.getModifiers()) && !m.isSynthetic()) {
                 must(Modifier.isPublic(m.getModifiers()) && !Modifier.isStatic(m.getModifiers()), "public: " + m);
                 must(got.add(m.getName()), "once: " + m);
+            } else {
+                must(!due.contains(m.getName()), "a name of its own: " + m);
             }
         }
         must(due.equals(got), "the face is " + due + ", not " + got);

@@ -274,61 +274,6 @@ public final class PlayerEdgesTest {
         due("the most TRIM", x.count(10), 100);
     }
 
-    /** NODES 1 .. 7 of a hearer's CHANNEL. */
-    private static final class Nodes {
-        private final int[] a = new int[8];
-        private final int[] b = new int[8];
-
-        private int[] join(int node, int[] s, int[] d) {
-            int[] row = new int[2 * s.length];
-            for (int i = 0; i < s.length; i++) {
-                int o = s[i] - Math.floorDiv(b[node] + d[i], 4);
-                row[2 * i] = d[i] + Math.floorDiv(a[node] + o, 2);
-                row[2 * i + 1] = o;
-                a[node] = o;
-                b[node] = d[i];
-            }
-            return row;
-        }
-
-        /** S and D of a row. */
-        private int[][] split(int node, int[] row) {
-            int[][] both = new int[2][row.length / 2];
-            for (int i = 0; i < row.length / 2; i++) {
-                int d = row[2 * i] - Math.floorDiv(a[node] + row[2 * i + 1], 2);
-                both[0][i] = row[2 * i + 1] + Math.floorDiv(b[node] + d, 4);
-                both[1][i] = d;
-                a[node] = row[2 * i + 1];
-                b[node] = d;
-            }
-            return both;
-        }
-
-        int[] bands(int[] samples) {
-            int[][] one = split(1, samples);
-            int[] all = new int[8];
-            for (int half = 0; half < 2; half++) {
-                int[][] two = split(2 + half, one[half]);
-                for (int quarter = 0; quarter < 2; quarter++) {
-                    int[][] last = split(4 + 2 * half + quarter, two[quarter]);
-                    all[4 * half + 2 * quarter] = last[0][0];
-                    all[4 * half + 2 * quarter + 1] = last[1][0];
-                }
-            }
-            return all;
-        }
-
-        private int[] pair(int node, int s, int d) {
-            return join(node, new int[] {s}, new int[] {d});
-        }
-
-        int[] block(int[] v) {
-            int[] s = join(2, pair(4, v[0], v[1]), pair(5, v[2], v[3]));
-            int[] d = join(3, pair(6, v[4], v[5]), pair(7, v[6], v[7]));
-            return join(1, s, d);
-        }
-    }
-
     private static int nearest(int v) {
         return Math.max(-2048, Math.min(2047, v));
     }
@@ -584,9 +529,12 @@ public final class PlayerEdgesTest {
         due(what + ": ARRIVED", x.packet(0, 3), 1);
         due(what + ": DAMAGED", x.count(33), 2);
         StringBuilder code = new StringBuilder();
-        for (int i = 0; i < 8 * x.code(NONE); i++) {
-            int one = (x.code(i / 8) >> (7 - i % 8)) & 1;
-            code.append(i == bit || i == found[0] ? 1 - one : one);
+        int bytes = x.code(NONE);
+        for (int i = 0; i < bytes; i++) {
+            code.append(Integer.toBinaryString(256 + x.code(i)).substring(1));
+        }
+        for (int i : new int[] {bit, found[0]}) {
+            code.setCharAt(i, code.charAt(i) == '0' ? '1' : '0');
         }
         code.append("0".repeat(4 * 128));
         int[][][] bands = new int[2][4][8];
@@ -601,8 +549,9 @@ public final class PlayerEdgesTest {
             bands[c][i / 16][b] = bits == 0 ? 0
                 : (int) (Math.floorDiv((2 * q + 1) << scale, (1L << bits) - 1) - (1L << scale));
         }
+        int twins = x.code(4) ^ turned;
         for (int i = 0; i < 32; i++) {
-            if ((((x.code(4) ^ turned) >> (i % 8)) & 1) == 1) {
+            if (((twins >> (i % 8)) & 1) == 1) {
                 int side = bands[1][i / 8][i % 8];
                 bands[0][i / 8][i % 8] += Math.floorDiv(side + 1, 2);
                 bands[1][i / 8][i % 8] = bands[0][i / 8][i % 8] - side;

@@ -175,17 +175,24 @@ public final class SoundEdgesTest {
         bands("the other channel goes on", x, 1, 0, 0, 0, 0, 0, -128, 0, 0, 0);
     }
 
-    // "A BLOCK: eight SAMPLES of a CHANNEL one behind the other": 32 k .. 32 k and 31 of FRAME k
+    // "A BLOCK: eight SAMPLES of a CHANNEL one behind the other"; "SAMPLES 32 k .. 32 k and 31 of FRAME k"
     private static void blocksAreEightSamples() {
-        HeadsetBands x = toned(64, 512, 0);
-        x.run(1);
-        int first = x.band(0, 0, 0, 0);
-        due("SAMPLES -512, -480, .. are split", first < 0 && x.band(0, 0, 3, 0) > 0 ? 1 : 0, 1);
-        // SAMPLES 32 .. 63 are those of the other half, the other way round
-        x.run(4);
-        due("FRAME 1 falls", x.band(0, 0, 1, 0) > x.band(0, 0, 3, 0) ? 1 : 0, 1);
-        due("FRAME 1 is loud at first", x.band(0, 0, 1, 0) > 0 ? 1 : 0, 1);
-        due("FRAME 1 ends below 0", x.band(0, 0, 3, 0) < 0 ? 1 : 0, 1);
+        Nodes[] nodes = {new Nodes(), new Nodes()};
+        Story story = new Story().when(0, x -> {
+            x.tone(0, 37, 1900, 400);
+            x.tone(1, 200, 2000, 0);
+        });
+        for (int frame = 0; frame < 4; frame++) {
+            HeadsetBands x = story.at(4 * frame + 1);
+            for (int block = 0; block < 8; block++) {
+                int c = block / 4;
+                int[] samples = new int[8];
+                for (int i = 0; i < 8; i++) {
+                    samples[i] = x.source(c, 32 * frame + 8 * (block % 4) + i);
+                }
+                bands("FRAME " + frame + ", BLOCK " + block % 4, x, c, block % 4, nodes[c].bands(samples));
+            }
+        }
     }
 
     // "MIDDLE and SIDE of l, r: (l and r) by 2, l less r"
