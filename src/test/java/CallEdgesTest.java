@@ -641,7 +641,7 @@ public final class CallEdgesTest {
         HeadsetBands x = small();
         x.sets(7, 1);
         for (int frames = 1; frames <= 18; frames++) {
-            while (x.count(7) < frames) {
+            for (int tries = 0; tries < Checks.TRIES && x.count(7) < frames; tries++) {
                 x.run(1);
             }
             int last = Math.min(16, frames);
@@ -685,7 +685,7 @@ public final class CallEdgesTest {
         due("together", x.count(17), first + second);
         // MADE UP ones, too, but they do not count
         x.burst(99);
-        while (x.count(14) == 0) {
+        for (int tries = 0; tries < Checks.TRIES && x.count(14) == 0; tries++) {
             x.run(1);
         }
         int made = off(x, x.played(0, 0));
@@ -739,15 +739,15 @@ public final class CallEdgesTest {
         HeadsetBands z = small();
         z.run(8);
         z.sets(5, 100);
-        while (z.count(14) < 15) {
+        for (int tries = 0; tries < Checks.TRIES && z.count(14) < 15; tries++) {
             z.run(1);
         }
         due("fifteen", z.late(3), 15);
-        while (z.count(14) < 16) {
+        for (int tries = 0; tries < Checks.TRIES && z.count(14) < 16; tries++) {
             z.run(1);
         }
         due("sixteen", z.late(3), 16);
-        while (z.count(14) < 17) {
+        for (int tries = 0; tries < Checks.TRIES && z.count(14) < 17; tries++) {
             z.run(1);
         }
         due("of sixteen at most", z.late(3), 16);

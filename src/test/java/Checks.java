@@ -6,6 +6,8 @@ import java.util.function.ToIntFunction;
 final class Checks {
     static final int NONE = HeadsetBands.NONE;
     static final int MIN = Integer.MIN_VALUE;
+    /** What a test waits for comes long before that; a broken class must not make it wait for ever. */
+    static final int TRIES = 400;
 
     // The document promises nothing behind an object's 512th call.
     private static final int QUESTIONS_OF_ONE_OBJECT = 300;

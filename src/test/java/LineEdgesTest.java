@@ -578,7 +578,7 @@ public final class LineEdgesTest {
         x.run(200);
         x.sets(5, 0);
         x.run(1);
-        while (x.count(6) < 11) {
+        for (int tries = 0; tries < Checks.TRIES && x.count(6) < 11; tries++) {
             x.run(4);
         }
         return x;
@@ -604,7 +604,7 @@ public final class LineEdgesTest {
         due("not ARRIVED", x.count(3), arrived + 1);
         due("no delay of it", x.delays(0, 0) + x.delays(0, 1), arrived + 1);
         due("it went from the line", x.count(5), 0);
-        while (x.count(6) == 12) {
+        for (int tries = 0; tries < Checks.TRIES && x.count(6) == 12; tries++) {
             x.run(1);
         }
         due("one is PLAYED: LEVEL 11", x.count(6), 11);
@@ -628,7 +628,7 @@ public final class LineEdgesTest {
         due("STEERED 0: POOL", x.count(31), 40);
         x.sets(9, 1);
         due("POOL till the next eighth", x.count(31), 40);
-        while (x.count(31) == 40) {
+        for (int tries = 0; tries < Checks.TRIES && x.count(31) == 40; tries++) {
             x.run(1);
         }
         due("steered", x.count(31), 30);
@@ -753,7 +753,7 @@ public final class LineEdgesTest {
         x.run(4);
         x.sets(9, 1);
         x.sets(1, 60);
-        while (x.count(1) % 8 != 0) {
+        for (int tries = 0; tries < Checks.TRIES && x.count(1) % 8 != 0; tries++) {
             x.run(1);
         }
         x.sets(1, 50);

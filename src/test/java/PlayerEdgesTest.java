@@ -495,11 +495,12 @@ public final class PlayerEdgesTest {
         x.run(1);
         int bytes = x.code(NONE);
         int other = 240;
-        while (x.damaged(bit, other) == 1) {
+        for (int tries = 0; tries < Checks.TRIES && x.damaged(bit, other) == 1; tries++) {
             other++;
         }
         int seed = 0;
-        while (drawn(seed, 3) % 240 != bit || drawn(seed, 6) % (8 * bytes - 240) != other - 240) {
+        while (seed < 999999
+                && (drawn(seed, 3) % 240 != bit || drawn(seed, 6) % (8 * bytes - 240) != other - 240)) {
             seed++;
         }
         return new int[] {other, seed};
@@ -698,7 +699,7 @@ public final class PlayerEdgesTest {
             madeUpAsDue("period " + period + ", FADE 8", x, 0);
             for (int made = 1; made < 4; made++) {
                 int slots = 100;
-                while (story.at(slots).count(15) < made) {
+                for (int tries = 0; tries < Checks.TRIES && story.at(slots).count(15) < made; tries++) {
                     slots++;
                 }
                 madeUpAsDue("period " + period + " behind " + made, story.at(slots), 0);
@@ -711,7 +712,7 @@ public final class PlayerEdgesTest {
         Story story = exact(16).when(60, x -> x.burst(99));
         int slots = 60;
         for (int made = 1; made <= 11; made++) {
-            while (story.at(slots).count(14) < made) {
+            for (int tries = 0; tries < Checks.TRIES && story.at(slots).count(14) < made; tries++) {
                 slots++;
             }
             HeadsetBands x = story.at(slots);

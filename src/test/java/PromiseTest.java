@@ -684,7 +684,7 @@ public final class PromiseTest {
         due("its sum", x.madeUp(1, 1), sum);
         due("SAMPLE 0", x.madeUp(1, 2), x.heard(1, lag - 1));
         int slots = 100;
-        while (story.at(slots + 1).count(14) == 0) {
+        for (int tries = 0; tries < Checks.TRIES && story.at(slots + 1).count(14) == 0; tries++) {
             slots++;
         }
         x = story.at(slots);
@@ -1083,7 +1083,7 @@ public final class PromiseTest {
         x.run(48);
         due("full", x.count(6), 12);
         int first = 0;
-        while (x.packet(first, 0) != 2) {
+        for (int tries = 0; tries < Checks.TRIES && x.packet(first, 0) != 2; tries++) {
             first++;
         }
         due("the twelfth arrived", x.packet(first + 11, 0), 2);
